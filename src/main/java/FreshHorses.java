@@ -1155,13 +1155,11 @@ public final class FreshHorses {
             return NONE;
         }
 
-        /** At a PLACE: ON FOOT, or the least BEAST by which it comes to THE END in so many MINUTES. */
+        /** At a PLACE where it can't go on as it is: TAKES the least BEAST by which it comes to THE END in so many
+         * MINUTES, unless it does so ON FOOT. */
         void change(int minutes) {
             int place = trip.here();
-            if (byFoot(place) == minutes) {
-                trip.leaveMount();
-                return;
-            }
+            if (byFoot(place) == minutes) return;
             for (int b = 0; b < trip.beasts; b++) {
                 if (trip.placeOf[b] == place && byBeast(b, place) == minutes) {
                     trip.takeBeast(b);

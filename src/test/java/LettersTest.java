@@ -104,7 +104,10 @@ public final class LettersTest {
         x.letter(0);
         Due.is("30 four each", x.fewest(1, 0, 15), 4);
         x.letter(0);
-        Due.is("30 four at most", x.fewest(1, 0, 15), FreshHorses.NONE);
+        Due.is("30 twelve at most", x.fewest(1, 0, 15), FreshHorses.NONE);
+        Due.road(x, "f1");
+        for (int i = 0; i < 5; i++) x.letter(0);
+        Due.is("30 four at most", x.fewest(1, 0, 5), FreshHorses.NONE);
     }
 
     private static void fewestRefusals() {

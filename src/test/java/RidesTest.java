@@ -128,6 +128,21 @@ public final class RidesTest {
         Due.is("17 leaves one to go on foot", y.tried(0, 0), 55);
         ways(y, 0, 0, new int[] {2, 3, 3}, new int[] {0, -1, -1});
         leftIs(y, 0, 0, 0, new int[] {1, 0, 1});
+        longest();
+    }
+
+    /** THE ROAD of most MILES, a BEAST of most strength. */
+    private static void longest() {
+        FreshHorses x = new FreshHorses();
+        Due.road(x, "f9f9f6");
+        Due.sort(x, "12:20,15,5;0,1,1");
+        x.ride(3, 0);
+        x.ride(4, 12);
+        x.beast(0, 0, 12, 0);
+        Due.is("17 longest", x.tried(0, 0), 12 * 20 + 12 * 5);
+        for (int i = 0; i < 24; i++) Due.is("19 longest " + i, x.way(0, 0, i, 0), i < 12 ? 0 : 2);
+        Due.is("17 longest, all spared", x.tried(1, 0), 24 * 20);
+        Due.is("18 longest", x.left(1, 0, 0, 1), 12);
     }
 
     /** Of ways of like MINUTES the first as told. */
@@ -191,6 +206,19 @@ public final class RidesTest {
         Due.is("20 first", x.about(0, 3), 36);
         Due.is("20 it fails then", x.ridden(0, 40), FreshHorses.STATE);
         Due.is("20 nothing changed", x.about(0, 3), 36);
+        afterAFailure();
+    }
+
+    /** Nothing of a TOLD that fails on the way stays for the next ride. */
+    private static void afterAFailure() {
+        FreshHorses x = Due.ready();
+        x.beast(0, 0, 4, 0);
+        Due.tell(x, "c0wwc5w");
+        x.ride(4, 12);
+        Due.is("17 fails", x.tried(0, 0), FreshHorses.STATE);
+        Due.is("17 behind it", x.tried(1, 0), 150);
+        Due.is("17 fails again", x.tried(0, 0), FreshHorses.STATE);
+        Due.is("18 behind it", x.left(1, 0, 0, 0), 0);
     }
 
     private static void wrongIs(String text, int due) {

@@ -14,6 +14,9 @@ public final class TextsTest {
     }
 
     private static void newObject() {
+        int[] constants = {FreshHorses.NONE, FreshHorses.UNKNOWN, FreshHorses.OUTSIDE, FreshHorses.STATE, FreshHorses.FULL};
+        int[] due = {-1, -101, -102, -103, -104};
+        for (int i = 0; i < 5; i++) Due.is("1 constant " + i, constants[i], due[i]);
         FreshHorses x = new FreshHorses();
         for (int what = 0; what <= 8; what++) Due.is("1 count " + what, x.count(what), 0);
         Due.is("1 roadTold", x.roadTold(0), FreshHorses.STATE);

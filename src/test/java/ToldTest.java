@@ -97,6 +97,18 @@ public final class ToldTest {
         int[] told = {1, 5, 5, 0, 5, 0, 4, 3};
         Due.is("34 all", x.digest(), digestOf(x, "a b", told, new int[] {8, 9}));
         Due.is("34 again", x.digest(), x.digest());
+        atMinute100();
+    }
+
+    /** Rides are tried just at minute 100: a beast that has rested 29 or 30 minutes then. */
+    private static void atMinute100() {
+        for (int since = 70; since <= 71; since++) {
+            FreshHorses x = Due.ready();
+            x.ride(0, 2);
+            x.beast(0, 0, 1, since);
+            Due.is("34 tried at 100", x.tried(0, 100), since == 70 ? 10 + 3 + 12 + 75 : 6 + 10 + 12 + 75);
+            Due.is("34 at 100", x.digest(), digestOf(x, "", new int[] {0, 2}, new int[0]));
+        }
     }
 
     /** The digest, worked out from what the other calls tell. */
