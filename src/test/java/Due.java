@@ -19,6 +19,18 @@ final class Due {
         is(what, holds ? 1 : 0, 1);
     }
 
+    /** A call that is told as text in the tests' output, too. */
+    interface Call {
+        long answer();
+    }
+
+    /** The call is refused as told, and changes nothing that digest() tells. */
+    static void refused(FreshHorses x, String call, long due, Call made) {
+        long before = x.digest();
+        is(call, made.answer(), due);
+        is(call + " changes nothing", x.digest(), before);
+    }
+
     static void end() {
         System.out.println(asked + " answers, " + wrong + " not as due");
         if (wrong != 0 || asked == 0) System.exit(1);
