@@ -1,6 +1,6 @@
 import java.util.Random;
 
-/** Any calls with any numbers in any state: none throws, and a refusal changes nothing. */
+/** Up to 512 calls with any numbers in any state: none throws, and a refusal changes nothing. */
 public final class AnyCallsTest {
     private static final int[] EDGES = {-1, 0, 1, 2, 3, 4, 5, 6, 7, 8, 11, 12, 17, 26, 27, 30, 53, 54, 90, 99, 100, 126,
         127, 300, 999, 1000, 9998, 9999, 10000, Integer.MAX_VALUE, Integer.MIN_VALUE};
@@ -14,12 +14,12 @@ public final class AnyCallsTest {
     }
 
     public static void main(String[] args) {
-        for (int seed = 0; seed < 400; seed++) new AnyCallsTest(seed).run();
+        for (int seed = 0; seed < 1000; seed++) new AnyCallsTest(seed).run();
         Due.end();
     }
 
     private void run() {
-        for (int i = 0; i < 250; i++) {
+        for (int i = 0; i < 110; i++) {
             if (random.nextInt(4) == 0) text();
             long before = x.digest();
             int which = random.nextInt(33);

@@ -198,10 +198,12 @@ public final class ImageEdgesTest {
         List<Integer> all = new ArrayList<>();
         boolean road = x.roadTold(0) != STATE;
         if (road) {
-            for (int what : new int[] {0, 1}) all.add(x.roadTold(what));
-            for (int p = 0; p < x.roadTold(1); p++) all.add(x.roadTold(10 + p));
-            for (int i = 0; i < x.roadTold(0); i++) all.add(x.roadTold(30 + i));
-            for (int p = 0; p < x.roadTold(1) - 1; p++) {
+            int miles = x.roadTold(0);
+            int places = x.roadTold(1);
+            all.addAll(List.of(miles, places));
+            for (int p = 0; p < places; p++) all.add(x.roadTold(10 + p));
+            for (int i = 0; i < miles; i++) all.add(x.roadTold(30 + i));
+            for (int p = 0; p < places - 1; p++) {
                 all.add(x.hay(p, 0));
                 x.hay(p, all.get(all.size() - 1));
             }

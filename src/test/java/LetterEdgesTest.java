@@ -18,6 +18,7 @@ public final class LetterEdgesTest {
         dayAsRidden();
         dayEdges();
         fewestByPlaces();
+        fewestTwelve();
         fewestOfFreshOnes();
         fewestLimits();
         fewestWithoutLetters();
@@ -235,6 +236,20 @@ public final class LetterEdgesTest {
                 x.letter(0);
                 int due = letters <= most[places] ? letters : NONE;
                 Due.is("30 " + letters + " LETTERS over " + places + " PLACES", x.fewest(0, 0, 5 * (places - 1)), due);
+            }
+        }
+    }
+
+    /** BEASTS of PLACE 0 alone would do, but as many would stand at each PLACE: more than twelve are too many. */
+    private static void fewestTwelve() {
+        int[] most = {0, 0, 4, 4, 4, 3, 2, 2, 1};
+        for (int places = 2; places <= 8; places++) {
+            FreshHorses x = on("f1*".repeat(places - 1), "12:5,5,5;0,0,0");
+            x.ride(0, 0);
+            for (int letters = 1; letters <= 5; letters++) {
+                x.letter(0);
+                int due = letters <= most[places] ? letters : NONE;
+                Due.is("30 twelve at most: " + letters + " over " + places, x.fewest(0, 0, 5 * (places - 1)), due);
             }
         }
     }

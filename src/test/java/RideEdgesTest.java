@@ -25,8 +25,10 @@ public final class RideEdgesTest {
         bestGoesOnAheadOfFoot();
         bestFootAheadOfBeast();
         bestLesserBeast();
+        bestOfOneSort();
         bestLesserPace();
         bestEarlierChoiceCounts();
+        bestOnAnotherRoad();
         sparesJustSo();
         sparesTheWeak();
         notRidden();
@@ -370,6 +372,21 @@ public final class RideEdgesTest {
         goes("19 a lesser one even if a greater could go on", x, 0, 0, "ww", "01");
     }
 
+    private static void bestOfOneSort() {
+        FreshHorses x = on("f2*f1", "4:9,9,5;1,1,2");
+        x.ride(BEST, 0);
+        x.beast(0, 0, 2, 9999);
+        x.beast(0, 0, 4, 9999);
+        x.beast(0, 0, 3, 9999);
+        x.beast(0, 1, 1, 9999);
+        x.beast(0, 1, 2, 9999);
+        Due.is("17 of one SORT at one PLACE those with most", x.tried(0, 0), 15);
+        goes("19 of one SORT at one PLACE those with most", x, 0, 0, "rrr", "114");
+        x.lead(1, 2);
+        Due.is("17 with less it is slower", x.tried(0, 0), 19);
+        goes("19 with less it is slower", x, 0, 0, "wrr", "224");
+    }
+
     private static void bestLesserPace() {
         FreshHorses x = on("f3", "12:9,9,5;0,1,2");
         x.ride(BEST, 0);
@@ -393,6 +410,31 @@ public final class RideEdgesTest {
         x.beast(0, 1, 12, 0);
         Due.is("17 like ones", x.tried(0, 0), 27);
         goes("19 the first choice counts first", x, 0, 0, "rww", "022");
+    }
+
+    /** Nothing of a longer ROAD stays for a shorter one. */
+    private static void bestOnAnotherRoad() {
+        FreshHorses x = on("f4*h4*s4*f4*f4*f2*f2", "12:20,10,5;1,2,3");
+        x.ride(BEST, 0);
+        x.ride(SPARING, 2);
+        String[] roads = {"f4*h4*s4*f4*f4*f2*f2", "f9*h4", "s2*f1*h3", "f3", "f1*f1*f1*f1"};
+        for (String road : roads) {
+            FreshHorses fresh = on(road, "12:20,10,5;1,2,3");
+            fresh.ride(BEST, 0);
+            fresh.ride(SPARING, 2);
+            Due.road(x, road);
+            for (FreshHorses each : new FreshHorses[] {x, fresh}) {
+                for (int p = 0; p < each.roadTold(1) - 1; p++) each.beast(0, p, 12 - 3 * p, 9999);
+            }
+            for (int ride = 0; ride < 2; ride++) {
+                Due.is("17 " + road + " as on a new object", x.tried(ride, 0), fresh.tried(ride, 0));
+                for (int i = 0; i < fresh.roadTold(0); i++) {
+                    Due.is("19 " + road + ", MILE " + i, x.way(ride, 0, i, 0), fresh.way(ride, 0, i, 0));
+                    Due.is("19 " + road + ", BEAST of " + i, x.way(ride, 0, i, 1), fresh.way(ride, 0, i, 1));
+                }
+            }
+            Due.is("25 " + road + " as on a new object", x.missed(0, 1), fresh.missed(0, 1));
+        }
     }
 
     private static void sparesJustSo() {

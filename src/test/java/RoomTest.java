@@ -42,12 +42,15 @@ public final class RoomTest {
             case 2: x.day(i % 8, 0); break;
             case 3: x.missed(i, 0); break;
             case 4: x.ridden(i % 8, 10 * i); break;
-            default:
-                x.tell();
-                x.shut(i, 9, 1);
-                x.set(i % 4, 3, 1);
-                x.fewest(i % 4, i % 8, 300);
-                break;
+            default: refusedInTheEnd(x, i); break;
         }
+    }
+
+    /** What can be done a few times alone, then what is read from THE PAGE and refused. */
+    private static void refusedInTheEnd(FreshHorses x, int i) {
+        if (i < 10) x.shut(i, 9, 1);
+        else if (i < 20) x.set(i % 4, 3, 1);
+        else if (i < 30) x.fewest(i % 4, i % 8, 300);
+        else x.tell();
     }
 }

@@ -51,8 +51,8 @@ public final class TextEdgesTest {
 
     /** Of all letters just those of a text can come behind another text. */
     private static void onlyComes(int sort, String ahead, String can) {
-        FreshHorses x = new FreshHorses();
         for (int code = 1; code <= 126; code++) {
+            FreshHorses x = new FreshHorses();
             int due = ahead.length() + (can.indexOf(code) >= 0 ? 1 : 0);
             Due.is("4 fault(" + sort + ") of " + ahead + " and code " + code, Due.fault(x, sort, ahead + (char) code), due);
         }
@@ -195,8 +195,8 @@ public final class TextEdgesTest {
     }
 
     private static void byForm(int sort, String form, String ahead) {
-        FreshHorses x = new FreshHorses();
         for (int code = 1; code <= 126; code++) {
+            FreshHorses x = new FreshHorses();
             String text = ahead + (char) code;
             Due.is("4 fault(" + sort + ") of " + ahead + " and code " + code, Due.fault(x, sort, text), faultBy(form, text));
         }
