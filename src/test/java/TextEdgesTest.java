@@ -12,6 +12,7 @@ public final class TextEdgesTest {
         behindAZero();
         ninety();
         blanks();
+        nothingOfAnOldPage();
         faultsOfNone();
         roadLetters();
         roadMiles();
@@ -125,6 +126,21 @@ public final class TextEdgesTest {
         Due.write(y, "abc");
         y.blank();
         Due.is("3 all else stays", y.digest(), before);
+    }
+
+    /** A text that lacks its last letter, where that stood on THE PAGE ahead of blank(). */
+    private static void nothingOfAnOldPage() {
+        String[] whole = {"f1h2", "4:5,6,7;8,9,0", "wc1t"};
+        for (int sort = 0; sort < 3; sort++) {
+            FreshHorses x = new FreshHorses();
+            Due.write(x, whole[sort]);
+            x.blank();
+            int less = whole[sort].length() - 1;
+            Due.write(x, whole[sort].substring(0, less));
+            Due.is("4 no letter behind the last is looked at", x.fault(sort), less);
+            int s = sort;
+            Due.refused(x, "5, 6, 8 nothing of an old PAGE is read", STATE, () -> s == 0 ? x.road() : s == 1 ? x.sort() : x.tell());
+        }
     }
 
     private static void faultsOfNone() {
